@@ -188,6 +188,7 @@ public final class MapAndRowsTest {
         x.station(0);
         due.is("row", x.row(0, 30), 30);
         due.is("lay", x.lay(0, 29, 5), 1);
+        due.is("lay", x.lay(0, 0, 5), 1);
         due.is("row", x.row(0, 31), BAD);
         due.is("row", x.row(0, MOST), BAD);
         due.is("row", x.row(1, 1), BAD);
@@ -200,6 +201,8 @@ public final class MapAndRowsTest {
         due.is("asked", x.asked(), 5);
         due.is("row again", x.row(0, 30), 30);
         due.is("all are 0", x.lay(0, 29, 6), 1);
+        due.is("asked", x.asked(), 0);
+        due.is("all are 0", x.lay(0, 0, 6), 1);
         due.is("asked", x.asked(), 0);
         due.is("row", x.row(0, 0), 0);
         due.is("a row of none is no missing one", x.tear(0), 1);

@@ -252,7 +252,8 @@ public final class PicksAndQuakesTest {
         x.pick(1, 10, 1);
         due.is("ten ticks nearer to 0: x is 0, and low", x.cell(0, 0), 0);
         due.is("none else", x.cell(0, 1), NONE);
-        x.deaf(1, false);
+        due.is("low of one cell", x.quake(0, 2), 1);
+        due.is("high of one cell", x.quake(0, 3), 1);
         FirstSeconds y = twoStations();
         y.pick(0, 0, 1);
         y.later(100);

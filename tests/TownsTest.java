@@ -8,6 +8,7 @@ public final class TownsTest {
         feltIsLowLessALoss();
         levelsNeedMoreAndMore();
         eachLevelIsToldOnce();
+        allFourLevels();
         levelsAreTakenBackOnce();
         quakesInTheirOrder();
         drills();
@@ -124,6 +125,28 @@ public final class TownsTest {
         hears(x, 6, 2, 0, 1, 6);
         hears(x, 7, 2, 0, 2, 6);
         due.is("messages", x.count(4), 8);
+    }
+
+    private static void allFourLevels() {
+        FirstSeconds x = twoTowns();
+        for (int k = 1; k <= 4; k++) x.level(k, 7 + k);
+        x.pick(0, 0, 1000000);
+        due.is("11 needs 8, 9, 10, 11", x.felt(0, 0), 11);
+        due.is("four in each town", x.warn(), 8);
+        due.is("alarm", x.alarm(0, 0), 4);
+        hears(x, 3, 0, 0, 4, 0);
+        x.pick(0, 0, 65536);
+        due.is("17 less 9", x.felt(0, 1), 8);
+        due.is("one and two", x.warn(), 3);
+        due.is("alarm", x.alarm(0, 1), 1);
+        due.is("alarm", x.alarm(1, 1), 2);
+        x.later(400);
+        x.deaf(1, false);
+        due.is("all taken back", x.warn(), 11);
+        hears(x, 14, 0, 0, -4, 400);
+        hears(x, 18, 1, 0, -4, 400);
+        hears(x, 21, 1, 1, -2, 400);
+        due.is("alarm", x.alarm(0, 0), 0);
     }
 
     private static void levelsAreTakenBackOnce() {
@@ -289,6 +312,45 @@ public final class TownsTest {
         due.is("one tick ahead", z.late(0, 0), 2);
         z.later(1);
         due.is("at the tick", z.late(0, 0), 1);
+
+        FirstSeconds v = new FirstSeconds();
+        v.rule(100, 1);
+        v.station(0);
+        v.station(1);
+        v.town(11);
+        v.later(12);
+        v.pick(0, 0, 1);
+        v.pick(1, 12, 1);
+        due.is("one cell, T is 1", v.quake(0, 1), 1);
+        v.later(98);
+        due.is("110 is ahead of 111", v.late(0, 0), 2);
+        v.later(1);
+        due.is("111", v.late(0, 0), 1);
+
+        FirstSeconds u = new FirstSeconds();
+        u.rule(100, 2);
+        u.station(0);
+        u.town(0);
+        u.later(10);
+        u.pick(0, 10, 1);
+        due.is("some T are NOW at most, some are not", u.late(0, 0), 0);
+
+        FirstSeconds s = new FirstSeconds();
+        s.rule(100, 1);
+        s.station(0);
+        s.station(1);
+        s.town(2);
+        s.later(20);
+        s.pick(0, 9, 1);
+        s.pick(1, 20, 1);
+        due.is("one cell", s.quake(0, 1), 1);
+        due.is("its T", s.holds(0, 0, 9) + s.holds(0, 0, 10), 2);
+        s.later(8);
+        due.is("29 and 30 are ahead", s.late(0, 0), 2);
+        s.later(1);
+        due.is("29 is NOW, 30 is ahead", s.late(0, 0), 0);
+        s.later(1);
+        due.is("30 is NOW", s.late(0, 0), 1);
 
         FirstSeconds w = new FirstSeconds();
         w.rule(100, 0);

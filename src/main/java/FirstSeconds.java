@@ -210,8 +210,8 @@ public final class FirstSeconds {
         switch (what) {
             case 0: return quakes.get(quake).heard;
             case 1: return heapOf(quake).cells;
-            case 2: return lowOf(quake);
-            case 3: return highOf(quake);
+            case 2: return heapOf(quake).low;
+            case 3: return heapOf(quake).high;
             case 4: return isOver(quake) ? 1 : 0;
             default: return BAD;
         }
@@ -407,8 +407,9 @@ public final class FirstSeconds {
 
     /** Over is asked of the heap as it is: a pick that would give it a cell again comes too late. */
     private boolean takes(int quake, int station, int tick) {
-        if (quakes.get(quake).hears(station) || isOver(quake)) return false;
-        fillHeap(quake, station, tick);
+        Quake one = quakes.get(quake);
+        if (one.hears(station) || heapOf(quake).cells == 0) return false;
+        fillHeap(one, station, tick);
         return heap.cells > 0;
     }
 
@@ -418,15 +419,16 @@ public final class FirstSeconds {
 
     private Heap heapOf(int quake) {
         if (heap.quake != quake) {
-            fillHeap(quake, NONE, UNHEARD);
+            Quake one = quakes.get(quake);
+            fillHeap(one, NONE, UNHEARD);
+            heap.measure(travels, stations.get(one.firstStation).cell, one.firstStrength);
             heap.quake = quake;
         }
         return heap;
     }
 
     /** The heap as if one station more (NONE: no more) had been heard at a tick; it is nobody's yet. */
-    private void fillHeap(int quake, int more, int tick) {
-        Quake one = quakes.get(quake);
+    private void fillHeap(Quake one, int more, int tick) {
         heap.clear();
         for (int s = 0; s < stations.size(); s++) {
             Station station = stations.get(s);
@@ -440,32 +442,6 @@ public final class FirstSeconds {
         heap.countCells();
     }
 
-    private int sizeAt(int quake, int cell) {
-        Quake one = quakes.get(quake);
-        int cellOfFirst = stations.get(one.firstStation).cell;
-        return bits(one.firstStrength * (travels.between(cell, cellOfFirst) + 1));
-    }
-
-    private int lowOf(int quake) {
-        Heap left = heapOf(quake);
-        int low = NONE;
-        for (int cell = 0; cell < CELLS; cell++) {
-            if (!left.has(cell)) continue;
-            int size = sizeAt(quake, cell);
-            if (low == NONE || size < low) low = size;
-        }
-        return low;
-    }
-
-    private int highOf(int quake) {
-        Heap left = heapOf(quake);
-        int high = NONE;
-        for (int cell = 0; cell < CELLS; cell++) {
-            if (left.has(cell)) high = Math.max(high, sizeAt(quake, cell));
-        }
-        return high;
-    }
-
     /** Of a quake that is not over. */
     private int feltIn(int town, int quake) {
         Heap left = heapOf(quake);
@@ -474,7 +450,7 @@ public final class FirstSeconds {
         for (int cell = 0; cell < CELLS; cell++) {
             if (left.has(cell)) loss = Math.max(loss, bits(travels.between(cell, townCell) + 1));
         }
-        return Math.max(0, lowOf(quake) - loss);
+        return Math.max(0, left.low - loss);
     }
 
     /** Of a quake that is not over. */
@@ -683,6 +659,8 @@ public final class FirstSeconds {
         private final int[] first = new int[CELLS];
         private final int[] last = new int[CELLS];
         private int cells;
+        private int low;
+        private int high;
         /** Whose heap this is; NONE: nobody's, and to be filled anew. */
         private int quake = NONE;
 
@@ -711,6 +689,18 @@ public final class FirstSeconds {
             cells = 0;
             for (int cell = 0; cell < CELLS; cell++) {
                 if (has(cell)) cells++;
+            }
+        }
+
+        /** The least and the greatest size over its cells, by the quake's first pick. */
+        private void measure(Travels travels, int stationCell, int strength) {
+            low = NONE;
+            high = NONE;
+            for (int cell = 0; cell < CELLS; cell++) {
+                if (!has(cell)) continue;
+                int size = bits(strength * (travels.between(cell, stationCell) + 1));
+                if (low == NONE || size < low) low = size;
+                if (size > high) high = size;
             }
         }
 
