@@ -158,10 +158,11 @@ public final class MapAndRowsTest {
         due.is("travel", x.travel(0, 144), BAD);
         due.is("travel", x.travel(LEAST, MOST), BAD);
         for (int q = 1; q <= 400; q++) {
-            x.rule(q, 0);
+            FirstSeconds y = new FirstSeconds();
+            y.rule(q, 0);
             for (int other = 0; other < 144; other++) {
                 long square = (long) q * ((other / 12) * (other / 12) + (other % 12) * (other % 12));
-                long t = x.travel(0, other);
+                long t = y.travel(0, other);
                 if (t * t > square || (t + 1) * (t + 1) <= square) due.is("travel at " + q + " to " + other, t, -1);
             }
         }

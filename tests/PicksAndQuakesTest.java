@@ -195,9 +195,11 @@ public final class PicksAndQuakesTest {
         x.pick(1, 10, 9);
         due.is("picks", x.quake(0, 0), 2);
         // cells as far from 0 as from 1, when cut: none at x 0 or 1 but high up
+        FirstSeconds map = twoStations();
         for (int cell = 0; cell < 144; cell++) {
-            boolean even = x.travel(cell, 0) == x.travel(cell, 1);
-            due.is("cell " + cell, x.holds(0, cell, 10 - x.travel(cell, 0)), even ? 1 : 0);
+            int way = map.travel(cell, 0);
+            boolean even = way == map.travel(cell, 1);
+            due.is("cell " + cell, x.holds(0, cell, 10 - way), even ? 1 : 0);
         }
         due.is("quake", x.quake(0, -1), BAD);
         due.is("quake", x.quake(0, 5), BAD);

@@ -1,11 +1,23 @@
 /** Counts and prints the answers that are not as due. */
 final class Due {
     private int wrong;
+    private String test = "";
+
+    /** From here on a wrong answer is told with this test's name. */
+    void begin(String name) {
+        test = name + ": ";
+    }
 
     void is(String call, long got, long want) {
         if (got == want) return;
         wrong++;
-        System.out.println(call + " answered " + got + ", due is " + want);
+        System.out.println(test + call + " answered " + got + ", due is " + want);
+    }
+
+    void is(String call, String got, String want) {
+        if (got.equals(want)) return;
+        wrong++;
+        System.out.println(test + call + " is " + got + ", due is " + want);
     }
 
     /** A refusal with a finding: it is told, and it is counted. */
@@ -13,6 +25,12 @@ final class Due {
         is(call, got, FirstSeconds.FINDING);
         is(call + ": finding()", x.finding(), finding);
         is(call + ": findings(" + finding + ")", x.findings(finding), times);
+    }
+
+    void threw(Throwable thrown) {
+        wrong++;
+        System.out.println(test + "threw " + thrown);
+        thrown.printStackTrace(System.out);
     }
 
     void end() {
