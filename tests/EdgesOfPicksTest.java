@@ -9,6 +9,71 @@ public final class EdgesOfPicksTest extends Edges {
         for (int what = 0; what <= 4; what++) due.is("told " + pick + " " + what, x.told(pick, what), told[what]);
     }
 
+    // ---- What it is
+
+    // "picks from rows of readings": the place that first() tells is a tick after the row's first one
+    static void picksComeFromRows() {
+        FirstSeconds x = neighbours();
+        x.later(30);
+        lays(x, 0, 1, -2, 1, 30, -40);
+        lays(x, 1, 1, 1, 1, 1, 1);
+        int place = x.first(0, 2, 3, 5, 1);
+        due.is("its first pick", place, 3);
+        due.is("opens", x.pick(0, 20 + place, 40), 10);
+        due.is("its tick", x.told(0, 1), 23);
+        due.is("a row that tells of none", x.first(1, 2, 3, 5, 1), NONE);
+    }
+
+    // "late ones": a pick that comes long after its tick, and after one that was heard later
+    static void latePicksJoin() {
+        FirstSeconds x = neighbours();
+        x.deaf(0, true);
+        x.deaf(1, true);
+        x.later(100000);
+        due.is("opens", x.pick(1, 60, 1), 10);
+        due.is("joins: ten ticks sooner", x.pick(0, 50, 1), 0);
+        due.is("cell 0", x.cell(0, 0), 0);
+        due.is("T is 50", x.holds(0, 0, 50), 1);
+    }
+
+    // "and lost ones too": a pick that never comes ends the quake, unless its station is DEAF; then T are as heard
+    static void lostPicksEndAQuake() {
+        FirstSeconds x = twins(2);
+        x.later(50);
+        x.pick(0, 48, 1);
+        x.later(2);
+        due.is("it may come yet", x.quake(0, 4), 0);
+        due.is("T is 50 alone", x.holds(0, 0, 49) + x.holds(0, 0, 50) + x.holds(0, 0, 51), 1);
+        x.later(1);
+        due.is("it is lost", x.quake(0, 4), 1);
+        x.deaf(1, true);
+        due.is("it is not waited for", x.quake(0, 4), 0);
+        for (int t = 46; t <= 50; t++) due.is("T as heard", x.holds(0, 0, t), 1);
+    }
+
+    // "two at once parted": at cells 13 and 130, both from tick 20 on; at stations 1 and 2 both are heard at once
+    static void twoQuakesAtOnceAreParted() {
+        FirstSeconds x = new FirstSeconds();
+        for (int cell : new int[] {0, 11, 132, 143}) x.station(cell);
+        x.later(34);
+        due.is("one opens", x.pick(0, 34, 100), 10);
+        due.is("the other one opens", x.pick(3, 34, 200), 11);
+        x.later(120 - 34);
+        due.is("station 1 of the one", x.pick(1, 120, 90), 0);
+        due.is("station 1 of the other one", x.pick(1, 120, 90), 1);
+        due.is("station 2 of the one", x.pick(2, 120, 90), 0);
+        due.is("station 2 of the other one", x.pick(2, 120, 90), 1);
+        x.later(161 - 120);
+        due.is("station 3 of the one", x.pick(3, 161, 80), 0);
+        due.is("station 0 of the other one", x.pick(0, 161, 80), 1);
+        due.is("the one is at cell 13", x.holds(0, 13, 20), 1);
+        due.is("and not at cell 130", x.time(0, 130, true), NONE);
+        due.is("the other one is at cell 130", x.holds(1, 130, 20), 1);
+        due.is("and not at cell 13", x.time(1, 13, true), NONE);
+        due.is("all stations", x.quake(0, 0) + x.quake(1, 0), 8);
+        due.is("two quakes", x.count(3), 2);
+    }
+
     // ---- Promise 14: pick
 
     // "TICK 0 .. NOW"

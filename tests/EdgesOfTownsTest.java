@@ -356,6 +356,15 @@ public final class EdgesOfTownsTest extends Edges {
         due.is("one quake", x.count(3), 1);
     }
 
+    // "told to one TOWN as such": to the one that is named, and to no other one
+    static void drillsOfOneTownAlone() {
+        FirstSeconds x = new FirstSeconds();
+        for (int i = 0; i < 6; i++) x.town(i);
+        for (int i = 5; i >= 0; i--) due.is("drill in " + i, x.drill(i, 2), 6 - i);
+        for (int i = 0; i < 6; i++) message(x, i, 5 - i, NONE, 2, 0);
+        due.is("six", x.count(4), 6);
+    }
+
     // ---- Promise 25: message
 
     // "NONE: none such. BAD: what."

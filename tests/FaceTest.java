@@ -4,6 +4,7 @@ import java.lang.reflect.Method;
 import java.lang.reflect.Modifier;
 import java.nio.file.Files;
 import java.nio.file.Path;
+import java.util.ArrayList;
 import java.util.Arrays;
 import java.util.List;
 import java.util.Set;
@@ -23,14 +24,22 @@ public final class FaceTest {
         "int late(int, int)", "int left(int, int)", "int asked()", "int count(int)", "int finding()",
         "int findings(int)", "long digest()",
     };
+    /** By group, the first and the last call that stands in it; the calls are in the order of FACE. */
+    private static final String[][] GROUPS = {
+        {"1 the map, rows", "rule", "first"}, {"2 picks, quakes", "pick", "holds"},
+        {"3 towns", "felt", "left"}, {"4 what is told", "asked", "digest"},
+    };
     private static final List<String> CONSTANTS = List.of("BAD -1", "FULL -2", "FINDING -3", "STATE -4", "NONE -9");
     private static final String FORBIDDEN = "\\b(throw|throws|try|catch|finally|synchronized|assert|instanceof|Object|"
         + "Exact|System\\.(?!arraycopy)\\w+|hashCode|equals|toString|Thread|Random|native|volatile|transient|var)\\b|->|::|Exact\\(";
+
+    private static final Path SOURCE = Path.of("src/main/java/FirstSeconds.java");
 
     private static int wrong = 0;
 
     public static void main(String[] args) throws Exception {
         theFaceIsWhole();
+        theGroupsAreTold();
         nothingElseIsOpen();
         classesInsideAreStatic();
         wordsThatAreRuledOut();
@@ -53,7 +62,7 @@ public final class FaceTest {
     private static void theFaceIsWhole() throws Exception {
         Set<String> open = new TreeSet<>();
         for (Method m : FirstSeconds.class.getDeclaredMethods()) {
-            if (Modifier.isPublic(m.getModifiers()) && !Modifier.isStatic(m.getModifiers())) open.add(told(m));
+            if (Modifier.isPublic(m.getModifiers())) open.add((Modifier.isStatic(m.getModifiers()) ? "static " : "") + told(m));
         }
         must(open.equals(new TreeSet<>(Arrays.asList(FACE))), "the methods are the document's: " + open);
         for (String constant : CONSTANTS) {
@@ -67,9 +76,37 @@ public final class FaceTest {
         must(Modifier.isPublic(made[0].getModifiers()), "the constructor is public");
     }
 
-    private static void nothingElseIsOpen() {
+    private static String name(String call) {
+        return call.replaceAll("^\\w+ |\\(.*", "");
+    }
+
+    private static Set<String> namesOfTheFace() {
         Set<String> names = new TreeSet<>();
-        for (String method : FACE) names.add(method.replaceAll("^\\w+ |\\(.*", ""));
+        for (String call : FACE) names.add(name(call));
+        return names;
+    }
+
+    /** Ahead of each group of calls the class says which it is, and the calls stand in the document's order. */
+    private static void theGroupsAreTold() throws Exception {
+        List<String> due = new ArrayList<>();
+        int next = 0;
+        for (String[] group : GROUPS) {
+            due.add(group[0]);
+            must(name(FACE[next]).equals(group[1]), group[0] + " begins with " + group[1]);
+            while (!name(FACE[next]).equals(group[2])) due.add(name(FACE[next++]));
+            due.add(name(FACE[next++]));
+        }
+        Pattern told = Pattern.compile("    // ---- (\\d .*)|    public \\w+ (\\w+)\\(.*");
+        List<String> are = new ArrayList<>();
+        for (String line : Files.readAllLines(SOURCE)) {
+            Matcher found = told.matcher(line);
+            if (found.matches()) are.add(found.group(1) != null ? found.group(1) : found.group(2));
+        }
+        must(are.equals(due), "the groups and their calls stand in the document's order: " + are);
+    }
+
+    private static void nothingElseIsOpen() {
+        Set<String> names = namesOfTheFace();
         for (Method m : FirstSeconds.class.getDeclaredMethods()) {
             if (Modifier.isPublic(m.getModifiers())) continue;
             must(Modifier.isPrivate(m.getModifiers()), m.getName() + " is private");
@@ -83,11 +120,13 @@ public final class FaceTest {
     }
 
     private static void classesInsideAreStatic() {
+        Set<String> names = namesOfTheFace();
         Class<?>[] inside = FirstSeconds.class.getDeclaredClasses();
         must(inside.length <= 11, "some twelve classes");
         for (Class<?> c : inside) {
             int is = c.getModifiers();
             must(Modifier.isStatic(is) && !Modifier.isPublic(is) && !Modifier.isProtected(is), c.getName() + " is static, not open");
+            for (Method m : c.getDeclaredMethods()) must(!names.contains(m.getName()), m + " has no public method's name");
             for (Field f : c.getDeclaredFields()) {
                 must(!Modifier.isStatic(f.getModifiers()) || Modifier.isFinal(f.getModifiers()), f + " is final");
             }
@@ -96,7 +135,7 @@ public final class FaceTest {
 
     private static void wordsThatAreRuledOut() throws Exception {
         Pattern forbidden = Pattern.compile(FORBIDDEN);
-        List<String> lines = Files.readAllLines(Path.of("src/main/java/FirstSeconds.java"));
+        List<String> lines = Files.readAllLines(SOURCE);
         boolean comment = false;
         for (int i = 0; i < lines.size(); i++) {
             String line = lines.get(i);
