@@ -518,13 +518,16 @@ public final class EdgesOfTownsTest extends Edges {
         due.is("joins", x.pick(1, 100000, 1), 0);
         due.is("one cell", x.quake(0, 1), 1);
         due.is("99990 and 155", x.left(0, 0), 145);
+        due.is("felt: 1 less 8", x.felt(0, 0), 0);
+        due.is("nothing is told", x.warn(), 0);
         due.is("safe still", x.late(0, 0), 2);
         due.is("99990 and 10", x.left(1, 0), 0);
         due.is("too late", x.late(1, 0), 1);
         FirstSeconds y = twins(50);
         y.later(100000);
         y.town(0);
-        y.pick(0, 100000, 1);
+        y.pick(0, 100000, 1000000);
+        due.is("felt: 20 less the 8 bits of 156", y.felt(0, 0), 12);
         due.is("T is 99950 to 100050", y.late(0, 0), 0);
         due.is("none left", y.left(0, 0), 0);
     }

@@ -83,6 +83,20 @@ public final class LifeOfAnObjectTest extends Edges {
         }
     }
 
+    // the same call again and again: from the second time on it answers the same, where it goes not on with each call
+    static void theSameCallUpToTheLast() {
+        List<String> goOn = List.of("town", "later", "tear", "pick", "drill");
+        for (Call call : allCalls()) {
+            if (goOn.contains(call.name)) continue;
+            FirstSeconds x = made();
+            call.call.applyAsLong(x);
+            long want = call.call.applyAsLong(x);
+            for (int i = CALLS_OF_MADE + 2; i < MOST_CALLS; i++) {
+                due.is(call.name + " as call " + (i + 1), call.call.applyAsLong(x), want);
+            }
+        }
+    }
+
     // a call that lays the map is the 512th
     static void theMapMayBeLaidLast() {
         FirstSeconds x = new FirstSeconds();
@@ -91,6 +105,12 @@ public final class LifeOfAnObjectTest extends Edges {
         FirstSeconds y = new FirstSeconds();
         for (int i = 0; i < MOST_CALLS - 1; i++) asksOnly(y, i);
         due.is("rule", y.rule(1, 50), 1);
+    }
+
+    // all of them are one call of a new object
+    static void aNewObjectIsAskedUpToTheLast() {
+        FirstSeconds x = new FirstSeconds();
+        for (int i = 1; i <= MOST_CALLS; i++) due.is("asked as call " + i, x.asked(), 0);
     }
 
     /** Calls that change nothing; most of them are asked() and digest(). */
@@ -111,8 +131,8 @@ public final class LifeOfAnObjectTest extends Edges {
             x.drill(0, 1 + i % 4);
             x.pick(i % 3, i % 40, 1 + i);
         }
-        for (int a : numbers) {
-            for (int b : numbers) callsAll(x, a, b);
+        for (int i = 0; i < 10 * numbers.length * numbers.length; i++) {
+            callsAll(x, numbers[i % numbers.length], numbers[i / numbers.length % numbers.length]);
         }
         due.is("it answers still", x.travel(0, 0), 0);
     }
